@@ -172,6 +172,7 @@ public final class AheadTest {
     Checks.due("21: BUNK 3, too", x.teachers(2, 4, 1), 14);
     x.set(2, 0, 0);
     Checks.due("21: a MAN in BUNK 2 has no time", x.teachers(2, 2, 0), Checks.NONE);
+    fewestIsNotLeast();
     Checks.due("21: nobody KNOWS it", x.teachers(0, 1, 0), Checks.NONE);
     Checks.due("21: without BUNKS", new DailyRelief().teachers(0, 1, 1), Checks.NONE);
     // One who doesn't KNOW it now may bring it along on the first DAY.
@@ -179,6 +180,31 @@ public final class AheadTest {
     brought.roster(0, 1);
     Checks.due("21: brought", brought.teachers(0, 30, 0), 0);
     Checks.due("21: the set of none", brought.teachers(0, 30, 1), 0);
+  }
+
+  /** A ship in which the STAYERS in BUNKS 2 and 4 stay for ever, and all others go. */
+  private static DailyRelief twoForEver() {
+    DailyRelief x = Checks.ship(0, 10, 50, 0, 50, 0);
+    x.days(4);
+    x.roster(10, 0);
+    x.know(3, 0, 1);
+    return x;
+  }
+
+  /** The fewest come ahead of the least as bits, which is asked among sets of one size alone. */
+  private static void fewestIsNotLeast() {
+    DailyRelief x = twoForEver();
+    x.know(0, 0, 1);
+    Checks.due("21: not 0 and 1", x.teachers(0, 30, 0), 1);
+    Checks.due("21: but 3", x.teachers(0, 30, 1), 8);
+    x.know(1, 0, 1);
+    Checks.due("21: 1 or 3", x.teachers(0, 30, 0), 1);
+    Checks.due("21: 1 is less", x.teachers(0, 30, 1), 2);
+    x.know(3, 0, -1);
+    x.know(1, 0, -1);
+    Checks.due("21: now 0 and 1", x.teachers(0, 30, 1), 3);
+    x.set(0, 4, 0);
+    Checks.due("21: BUNK 0 teaches nothing unless it must", x.teachers(0, 30, 1), 3);
   }
 
   private static void storm() {
@@ -209,6 +235,12 @@ public final class AheadTest {
     Checks.due("22: none", x.storm(1), Checks.NONE);
     x.task(2, 5, 0);
     Checks.due("22: no such TASK any more", x.storm(0), 2);
+    DailyRelief three = Checks.ship(0, 0, 0);
+    three.task(0, 2, 1);
+    three.know(1, 2, 0);
+    three.know(2, 2, 0);
+    Checks.due("22: one of those who KNOW it", three.storm(0), 2);
+    Checks.due("22: the first of them", three.storm(1), 1);
     Checks.due("22: what 2", x.storm(2), Checks.BEYOND);
     for (int v : Checks.WILD) {
       Checks.due("22: what " + v, x.storm(v), Checks.BEYOND);
@@ -291,6 +323,9 @@ public final class AheadTest {
     x.bunk(0);
     x.know(3, 0, 1);
     Checks.due("25: by hand", x.began(0, 1), -1);
+    x.bunk(0);
+    x.bunk(0);
+    Checks.due("25: among six", x.began(0, 8), 6);
     Checks.due("25: version 1000", x.began(0, 1000), Checks.BEYOND);
     Checks.due("25: version -1", x.began(0, -1), Checks.BEYOND);
     Checks.due("25: knack 6", x.began(6, 0), Checks.BEYOND);

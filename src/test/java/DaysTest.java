@@ -195,10 +195,10 @@ public final class DaysTest {
   }
 
   private static void lastDay() {
-    DailyRelief x = new DailyRelief();
-    for (int i = 0; i < 111; i++) {
-      x.days(90);
-    }
+    DailyRelief x = nearTheLast();
+    Checks.due("14: just 9999", x.days(9), 0);
+    Checks.due("14: it is", x.count(3), 9999);
+    x = nearTheLast();
     Checks.due("14: DAY", x.count(3), 9990);
     Checks.due("14: above 9999", x.days(10), Checks.STATE);
     Checks.due("15: above 9999", x.draws(10), Checks.STATE);
@@ -213,6 +213,14 @@ public final class DaysTest {
     x.roster(0, 0);
     Checks.due("18: AHEAD goes beyond", x.then(5, 0, 2), 10003);
     Checks.due("14: it told", x.told(3), 4);
+  }
+
+  private static DailyRelief nearTheLast() {
+    DailyRelief x = new DailyRelief();
+    for (int i = 0; i < 111; i++) {
+      x.days(90);
+    }
+    return x;
   }
 
   private static int drawn(int z) {

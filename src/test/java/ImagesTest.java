@@ -3,6 +3,7 @@ public final class ImagesTest {
   public static void main(String[] args) {
     image();
     restore();
+    waitingInTheImage();
     notInTheImage();
     tell();
     check();
@@ -103,6 +104,27 @@ public final class ImagesTest {
     Checks.due("36: what waits", x.check(2), y.check(2));
     Checks.due("36: days", x.draws(30), y.draws(30));
     same("36: later", x, y);
+  }
+
+  /** The numbers that wait come back as they were. */
+  private static void waitingInTheImage() {
+    DailyRelief x = Checks.ship(0, 10, 10);
+    x.know(0, 0, 1);
+    x.set(0, 4, 0);
+    x.tell(2);
+    x.tell(2);
+    x.image();
+    x.check(0);
+    x.tell(7);
+    x.tell(7);
+    x.restore();
+    Checks.due("36: what waits", x.check(0), 0);
+    x.tell(7);
+    x.image();
+    x.check(0);
+    x.tell(2);
+    x.restore();
+    Checks.due("36: the later ones", x.check(0), 1);
   }
 
   private static void notInTheImage() {

@@ -163,10 +163,11 @@ public final class SheetsTest {
     Checks.due("33: up to a wrong km", x.rosters(1), 1);
     row(x, 2, 16, 16, 0, 17, -1, 18, 0);
     Checks.due("33: up to wrong KNACKS", x.rosters(2), 1);
+    row(x, 2, 16, 19, 2);
+    Checks.due("33: one pair", x.rosters(2), 1);
     Checks.due("33: no numbers", none(x), 0);
     Checks.due("33: again", x.rosters(0), 3);
-    Checks.due("33: and again", x.rosters(0), 3);
-    Checks.due("33: up to 12", x.rosters(0), 1);
+    Checks.due("33: up to 12", x.rosters(0), 3);
     Checks.due("33: is full", x.rosters(0), 0);
     Checks.due("33: no ERROR", x.told(1) + x.told(2) + x.told(4), 0);
     Checks.due("33: men now", x.count(1), 12);
@@ -205,6 +206,11 @@ public final class SheetsTest {
     for (int v : Checks.WILD) {
       Checks.due("34: sheet " + v, x.judge(v), Checks.BEYOND);
     }
+    DailyRelief six = Checks.ship(0, 0, 0, 0, 0, 0);
+    row(six, 0, 8, 0, 0, 0, 0, 0, 0);
+    Checks.due("34: six", six.judge(0), -1);
+    row(six, 0, 8, 0, 0, 0, 0, 0, 1);
+    Checks.due("34: the sixth", six.judge(0), 5);
     DailyRelief empty = new DailyRelief();
     empty.sheet(0, 8, 0);
     Checks.due("34: none, none", empty.judge(0), -1);
