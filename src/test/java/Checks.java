@@ -11,6 +11,11 @@ final class Checks {
   static final int[] WILD = {Integer.MIN_VALUE, Integer.MIN_VALUE + 1, -1000000001, -256, -2, -1,
       100, 255, 1000, 65536, Integer.MAX_VALUE - 1, Integer.MAX_VALUE};
 
+  /** A call, or a row of them, on a ship. */
+  interface Act {
+    int on(DailyRelief x);
+  }
+
   private static int right = 0;
   private static int wrong = 0;
 
@@ -42,6 +47,15 @@ final class Checks {
   static int text(DailyRelief x, int use, String text) {
     feed(x, text);
     return x.text(use);
+  }
+
+  /** How many acts have answered an ERROR so far. */
+  static int errors(DailyRelief x) {
+    int all = 0;
+    for (int k = 1; k <= 6; k++) {
+      all += x.told(k);
+    }
+    return all;
   }
 
   /** A ship with these men, by km. */
