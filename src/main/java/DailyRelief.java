@@ -978,7 +978,7 @@ public final class DailyRelief {
     /** What it gives; the third NAME is m in NEEDS, d in WAGES. */
     int value(int k, int h, int third) {
       int top = 0;
-      for (int i = 0; i < code.length; i++) {
+      for (int i = 0; i < code.length && top < stack.length; i++) {
         int step = code[i];
         if (step >= 0) {
           stack[top++] = step;

@@ -150,6 +150,7 @@ public final class AheadTest {
       }
     }
     fewestTeachers();
+    othersTeachNothing();
     Checks.due("21: n 0", x.teachers(0, 0, 0), Checks.BEYOND);
     Checks.due("21: n 31", x.teachers(0, 31, 0), Checks.BEYOND);
     Checks.due("21: what 2", x.teachers(0, 1, 2), Checks.BEYOND);
@@ -180,6 +181,20 @@ public final class AheadTest {
     brought.roster(0, 1);
     Checks.due("21: brought", brought.teachers(0, 30, 0), 0);
     Checks.due("21: the set of none", brought.teachers(0, 30, 1), 0);
+  }
+
+  /** Of each KNACK: those outside the set teach nothing, though now all teach it. */
+  private static void othersTeachNothing() {
+    for (int knack = 0; knack < 6; knack++) {
+      DailyRelief x = Checks.ship(10, 10, 10, 10);
+      x.roster(10, 0);
+      x.know(1, knack, 4);
+      for (int i = 0; i < 4; i++) {
+        x.set(i, 4, knack);
+      }
+      Checks.due("21: one is enough", x.teachers(knack, 2, 0), 1);
+      Checks.due("21: BUNK 1, of KNACK " + knack, x.teachers(knack, 2, 1), 2);
+    }
   }
 
   /** A ship in which the STAYERS in BUNKS 2 and 4 stay for ever, and all others go. */

@@ -144,6 +144,7 @@ public final class TextsTest {
     value("1|0&0", 1);
     value("(1|0)&0", 0);
     value("1<2&2<1|7", 1);
+    truths();
     value("!0", 1);
     value("!7", 0);
     value("!!7", 1);
@@ -157,6 +158,31 @@ public final class TextsTest {
     value("(0-2048*2048*512)/(0-1)<0", 1);
     value("(0-2048*2048*512)%(0-1)+3", 3);
     value("2048*2048*512*2", 0);
+  }
+
+  /** | & < = > ! give just 1 or 0, whatever is joined; what is not 0 is true, below 0, too. */
+  private static void truths() {
+    int[] numbers = {0, 1, 2, -1, -2, 9999};
+    for (int a : numbers) {
+      for (int b : numbers) {
+        truth(told(a) + "|" + told(b), a != 0 || b != 0);
+        truth(told(a) + "&" + told(b), a != 0 && b != 0);
+        truth(told(a) + "<" + told(b), a < b);
+        truth(told(a) + "=" + told(b), a == b);
+        truth(told(a) + ">" + told(b), a > b);
+      }
+      truth("!" + told(a), a == 0);
+    }
+  }
+
+  private static String told(int number) {
+    return number < 0 ? "(0-" + -number + ")" : Integer.toString(number);
+  }
+
+  /** Held within 0 .. 999, a number below 0 would look like 0: so it is added to 500. */
+  private static void truth(String text, boolean is) {
+    value("500+(" + text + ")", is ? 501 : 500);
+    value("500-(" + text + ")", is ? 499 : 500);
   }
 
   private static void uses() {
