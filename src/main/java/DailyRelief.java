@@ -963,7 +963,8 @@ public final class DailyRelief {
 
   /**
    * A TEXT, in the order in which it is worked out: a number stands for itself, a NAME or a sign
-   * for the number below 0 of its byte. It never changes, so Ships may share it.
+   * for the number below 0 of its byte. Only the stack changes, which no working out leaves for
+   * the next, so Ships may share it.
    */
   private static final class Text {
     private final int[] code;
